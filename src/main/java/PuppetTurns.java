@@ -30,6 +30,8 @@ public final class PuppetTurns {
     private static final int RULE_HIDDEN_FIRST = 2;
     private static final int MOST_STEP = 19;
     private static final int MOST_FRAMES = 9999;
+    // Forecasts go on behind the frame 9999, by some frames.
+    private static final int UNLIMITED_FRAMES = 1000000;
     private static final int FORECAST_FRAMES = 60;
     private static final int STEP_FRAMES = 20;
 
@@ -48,10 +50,11 @@ public final class PuppetTurns {
     private static final int PICTURE = 3;
     private static final int COLOR = 4;
     private static final int FLIPS = 5;
-    private static final int HIDDEN_FRAMES = 6;
-    private static final int ON_END = 7;
-    private static final int MOST_ON_END = 8;
-    private static final int PROPERTIES = 9;
+    private static final int HEIGHT = 6;
+    private static final int HIDDEN_FRAMES = 7;
+    private static final int ON_END = 8;
+    private static final int MOST_ON_END = 9;
+    private static final int PROPERTIES = 10;
 
     // What is kept of each step of a play.
     private static final int SIGN = 0;
@@ -130,7 +133,7 @@ public final class PuppetTurns {
 
     public int frame() {
         before.copyFrom(scene);
-        return recorded(scene.countedFrame(survey));
+        return recorded(scene.makeFrame(survey, MOST_FRAMES));
     }
 
     public int undo() {
@@ -209,7 +212,7 @@ public final class PuppetTurns {
             return INVALID_ARGUMENT;
         }
         if (within(what, X, FLIPS)) {
-            return scene.get(puppet, what);
+            return scene.puppets.get(puppet, what);
         }
         switch (what) {
             case 6:
@@ -220,11 +223,11 @@ public final class PuppetTurns {
                 survey.look(scene);
                 return survey.hiddenLines.get(puppet);
             case 9:
-                return scene.get(puppet, HIDDEN_FRAMES);
+                return scene.puppets.get(puppet, HIDDEN_FRAMES);
             case 10:
-                return scene.get(puppet, ON_END);
+                return scene.puppets.get(puppet, ON_END);
             case 11:
-                return scene.get(puppet, MOST_ON_END);
+                return scene.puppets.get(puppet, MOST_ON_END);
             default:
                 return INVALID_ARGUMENT;
         }
@@ -326,14 +329,14 @@ public final class PuppetTurns {
 
     /** The acts of a play are not recorded one by one: the whole play is one action. */
     private int perform(int act) {
-        Steps steps = reader.steps;
-        int first = steps.get(act, FIRST);
-        int second = steps.get(act, SECOND);
-        switch (steps.get(act, SIGN)) {
+        Cells parts = reader.steps.parts;
+        int first = parts.get(act, FIRST);
+        int second = parts.get(act, SECOND);
+        switch (parts.get(act, SIGN)) {
             case 'f':
-                return scene.countedFrame(survey);
+                return scene.makeFrame(survey, MOST_FRAMES);
             case 'm':
-                return scene.relocate(first, second, steps.get(act, THIRD));
+                return scene.relocate(first, second, parts.get(act, THIRD));
             case 't':
                 return scene.flip(first, second);
             case 'u':
@@ -346,20 +349,27 @@ public final class PuppetTurns {
     }
 
     private int failedAt(int act, int kind, int done, int code) {
-        int place = reader.steps.get(act, PLACE);
-        latest.set(kind, place, reader.steps.get(act, DEPTH), done, code);
+        int place = reader.steps.parts.get(act, PLACE);
+        latest.set(kind, place, reader.steps.parts.get(act, DEPTH), done, code);
         return PLACE_OF_FAILURE - place;
     }
 
-    /** A row of numbers in which no index is ever out of range: outside it there are only zeros. */
-    private static final class Row {
+    /** Numbers, one or several in a row, of which no index is ever out of range: outside there are only zeros. */
+    private static final class Cells {
         private final int[] cells;
+        private final int width;
 
-        Row(int size) {
-            cells = new int[Math.max(size, 0)];
+        Cells(int rows, int width) {
+            this.cells = new int[Math.max(rows * width, 0)];
+            this.width = width;
         }
 
         int get(int index) {
+            return index >= 0 && index < cells.length ? cells[index] : 0;
+        }
+
+        int get(int row, int column) {
+            int index = row * width + column;
             return index >= 0 && index < cells.length ? cells[index] : 0;
         }
 
@@ -369,8 +379,17 @@ public final class PuppetTurns {
             }
         }
 
+        void set(int row, int column, int value) {
+            int index = row * width + column;
+            if (index >= 0 && index < cells.length) {
+                cells[index] = value;
+            }
+        }
+
         void add(int index, int more) {
-            set(index, get(index) + more);
+            if (index >= 0 && index < cells.length) {
+                cells[index] += more;
+            }
         }
 
         void fill(int value) {
@@ -379,16 +398,16 @@ public final class PuppetTurns {
             }
         }
 
-        void copyFrom(Row other) {
+        void copyFrom(Cells other) {
             System.arraycopy(other.cells, 0, cells, 0, Math.min(other.cells.length, cells.length));
         }
     }
 
     /** A state: all that undo() restores. */
     private static final class Scene {
-        private final Row pictures = new Row(PICTURES * PICTURE_ROWS);
-        private final Row puppets = new Row(PUPPETS * PROPERTIES);
-        private final Row order = new Row(PUPPETS);
+        private final Cells pictures = new Cells(PICTURES, PICTURE_ROWS);
+        private final Cells puppets = new Cells(PUPPETS, PROPERTIES);
+        private final Cells order = new Cells(PUPPETS, 1);
         private int there = 0;
         private int arrived = 0;
         private int limit = MOST_LIMIT;
@@ -410,14 +429,6 @@ public final class PuppetTurns {
             rule = other.rule;
             step = other.step;
             frames = other.frames;
-        }
-
-        int get(int puppet, int property) {
-            return puppets.get(puppet * PROPERTIES + property);
-        }
-
-        private void set(int puppet, int property, int value) {
-            puppets.set(puppet * PROPERTIES + property, value);
         }
 
         /** The position in the order, or -1 if there is no such puppet. */
@@ -443,17 +454,13 @@ public final class PuppetTurns {
             return NONE;
         }
 
-        private int heightOf(int puppet) {
-            return get(puppet, TALL) == 1 ? TALL_HEIGHT : LOW_HEIGHT;
-        }
-
         int firstLine(int puppet) {
-            return Math.max(get(puppet, Y), 0);
+            return Math.max(puppets.get(puppet, Y), 0);
         }
 
         /** Above firstLine() if no line of the puppet is on the stage. */
         int lastLine(int puppet) {
-            return Math.min(get(puppet, Y) + heightOf(puppet), LINES) - 1;
+            return Math.min(puppets.get(puppet, Y) + puppets.get(puppet, HEIGHT), LINES) - 1;
         }
 
         int linesOf(int puppet) {
@@ -466,21 +473,21 @@ public final class PuppetTurns {
 
         /** The puppet's dots on a line of the stage, column 0 in the highest bit. */
         long dotsOn(int puppet, int y) {
-            int height = heightOf(puppet);
-            int row = y - get(puppet, Y);
+            int height = puppets.get(puppet, HEIGHT);
+            int row = y - puppets.get(puppet, Y);
             if (!within(row, 0, height - 1)) {
                 return 0L;
             }
-            int flips = get(puppet, FLIPS);
+            int flips = puppets.get(puppet, FLIPS);
             if ((flips & TOP_AND_BOTTOM) != 0) {
                 row = height - 1 - row;
             }
-            int picture = (get(puppet, PICTURE) + row / PICTURE_ROWS) % PICTURES;
-            int dots = pictures.get(picture * PICTURE_ROWS + row % PICTURE_ROWS);
+            int picture = (puppets.get(puppet, PICTURE) + row / PICTURE_ROWS) % PICTURES;
+            int dots = pictures.get(picture, row % PICTURE_ROWS);
             if ((flips & LEFT_AND_RIGHT) != 0) {
                 dots = mirrored(dots);
             }
-            return placed(dots, get(puppet, X));
+            return placed(dots, puppets.get(puppet, X));
         }
 
         private static int mirrored(int dots) {
@@ -504,9 +511,8 @@ public final class PuppetTurns {
             if (!within(picture, 0, PICTURES - 1) || !within(row, 0, PICTURE_ROWS - 1) || !within(dots, 0, MOST_DOTS)) {
                 return INVALID_ARGUMENT;
             }
-            int index = picture * PICTURE_ROWS + row;
-            int previous = pictures.get(index);
-            pictures.set(index, dots);
+            int previous = pictures.get(picture, row);
+            pictures.set(picture, row, dots);
             return previous;
         }
 
@@ -526,15 +532,13 @@ public final class PuppetTurns {
             arrived++;
             order.set(there, puppet);
             there++;
-            set(puppet, X, x);
-            set(puppet, Y, y);
-            set(puppet, TALL, tall);
-            set(puppet, PICTURE, picture);
-            set(puppet, COLOR, color);
-            // The number may have been another puppet's, whose coming was undone.
-            for (int property = FLIPS; property < PROPERTIES; property++) {
-                set(puppet, property, 0);
-            }
+            puppets.set(puppet, X, x);
+            puppets.set(puppet, Y, y);
+            puppets.set(puppet, TALL, tall);
+            puppets.set(puppet, HEIGHT, tall == 1 ? TALL_HEIGHT : LOW_HEIGHT);
+            puppets.set(puppet, PICTURE, picture);
+            puppets.set(puppet, COLOR, color);
+            // What else is kept of it is 0 still, since a number is never used again, and undo() restores all.
             return puppet;
         }
 
@@ -550,8 +554,8 @@ public final class PuppetTurns {
             if (!exists(puppet) || !isPlace(x, y)) {
                 return INVALID_ARGUMENT;
             }
-            set(puppet, X, x);
-            set(puppet, Y, y);
+            puppets.set(puppet, X, x);
+            puppets.set(puppet, Y, y);
             return linesOf(puppet);
         }
 
@@ -559,8 +563,8 @@ public final class PuppetTurns {
             if (!exists(puppet) || !within(flips, 0, MOST_FLIPS)) {
                 return INVALID_ARGUMENT;
             }
-            int previous = get(puppet, FLIPS);
-            set(puppet, FLIPS, flips);
+            int previous = puppets.get(puppet, FLIPS);
+            puppets.set(puppet, FLIPS, flips);
             return previous;
         }
 
@@ -612,12 +616,11 @@ public final class PuppetTurns {
             return previous;
         }
 
-        int countedFrame(Survey survey) {
-            return frames < MOST_FRAMES ? makeFrame(survey) : CAPACITY_EXCEEDED;
-        }
-
-        /** Forecasts come here directly, since their frames are not limited. The survey tells of this frame then. */
-        int makeFrame(Survey survey) {
+        /** The survey tells of this frame then. */
+        int makeFrame(Survey survey, int mostFrames) {
+            if (frames >= mostFrames) {
+                return CAPACITY_EXCEEDED;
+            }
             survey.look(this);
             for (int position = 0; position < there; position++) {
                 countHidden(order.get(position), survey);
@@ -633,13 +636,13 @@ public final class PuppetTurns {
 
         private void countHidden(int puppet, Survey survey) {
             if (!survey.isHidden(puppet)) {
-                set(puppet, ON_END, 0);
+                puppets.set(puppet, ON_END, 0);
                 return;
             }
-            int onEnd = get(puppet, ON_END) + 1;
-            set(puppet, ON_END, onEnd);
-            set(puppet, MOST_ON_END, Math.max(get(puppet, MOST_ON_END), onEnd));
-            set(puppet, HIDDEN_FRAMES, get(puppet, HIDDEN_FRAMES) + 1);
+            int onEnd = puppets.get(puppet, ON_END) + 1;
+            puppets.set(puppet, ON_END, onEnd);
+            puppets.set(puppet, MOST_ON_END, Math.max(puppets.get(puppet, MOST_ON_END), onEnd));
+            puppets.set(puppet, HIDDEN_FRAMES, puppets.get(puppet, HIDDEN_FRAMES) + 1);
         }
 
         private void rotate() {
@@ -663,24 +666,21 @@ public final class PuppetTurns {
 
     /** How many puppets stand on each line, and on how many lines each is hidden, when last looked at. */
     private static final class Survey {
-        private final Row standing = new Row(LINES);
-        private final Row hiddenLines = new Row(PUPPETS);
+        private final Cells standing = new Cells(LINES, 1);
+        private final Cells hiddenLines = new Cells(PUPPETS, 1);
 
         void look(Scene scene) {
             standing.fill(0);
             hiddenLines.fill(0);
             for (int position = 0; position < scene.there; position++) {
-                lookAt(scene, scene.order.get(position));
-            }
-        }
-
-        private void lookAt(Scene scene, int puppet) {
-            int last = scene.lastLine(puppet);
-            for (int y = scene.firstLine(puppet); y <= last; y++) {
-                if (standing.get(y) >= scene.limit) {
-                    hiddenLines.add(puppet, 1);
+                int puppet = scene.order.get(position);
+                int last = scene.lastLine(puppet);
+                for (int y = scene.firstLine(puppet); y <= last; y++) {
+                    if (standing.get(y) >= scene.limit) {
+                        hiddenLines.add(puppet, 1);
+                    }
+                    standing.add(y, 1);
                 }
-                standing.add(y, 1);
             }
         }
 
@@ -724,7 +724,7 @@ public final class PuppetTurns {
 
     /** The puppets that are shown on one line, and the dots of lines as bits, column 0 in the highest one. */
     private static final class Sight {
-        private final Row shownPuppets = new Row(MOST_LIMIT);
+        private final Cells shownPuppets = new Cells(MOST_LIMIT, 1);
         private int size = 0;
 
         void look(Scene scene, int y) {
@@ -747,7 +747,7 @@ public final class PuppetTurns {
             for (int index = 0; index < size; index++) {
                 int puppet = shownPuppets.get(index);
                 if ((scene.dotsOn(puppet, y) & bitOf(x)) != 0L) {
-                    return scene.get(puppet, COLOR);
+                    return scene.puppets.get(puppet, COLOR);
                 }
             }
             return 0;
@@ -830,18 +830,18 @@ public final class PuppetTurns {
     private static final class Forecast {
         private final Scene future = new Scene();
         private final Survey survey = new Survey();
-        private final Row hiddenByTurns = new Row(PUPPETS);
+        private final Cells hiddenByTurns = new Cells(PUPPETS, 1);
         private int step = 1;
         private int greatest = 0;
 
         private int hiddenSince(Scene scene, int puppet) {
-            return future.get(puppet, HIDDEN_FRAMES) - scene.get(puppet, HIDDEN_FRAMES);
+            return future.puppets.get(puppet, HIDDEN_FRAMES) - scene.puppets.get(puppet, HIDDEN_FRAMES);
         }
 
         int hiddenFrames(Scene scene, int puppet, int frames) {
             future.copyFrom(scene);
             for (int frame = 0; frame < frames; frame++) {
-                future.makeFrame(survey);
+                future.makeFrame(survey, UNLIMITED_FRAMES);
             }
             return hiddenSince(scene, puppet);
         }
@@ -852,7 +852,7 @@ public final class PuppetTurns {
             }
             future.copyFrom(scene);
             for (int frames = 1; frames <= FORECAST_FRAMES; frames++) {
-                future.makeFrame(survey);
+                future.makeFrame(survey, UNLIMITED_FRAMES);
                 if (allShownWithin(scene, frames)) {
                     return frames;
                 }
@@ -889,7 +889,7 @@ public final class PuppetTurns {
             future.rule = RULE_ROTATE;
             future.step = 1;
             for (int turns = 0; turns < scene.there; turns++) {
-                future.makeFrame(survey);
+                future.makeFrame(survey, UNLIMITED_FRAMES);
                 hiddenByTurns.set(turns, survey.hiddenBits());
             }
         }
@@ -949,7 +949,7 @@ public final class PuppetTurns {
 
     /** The text. */
     private static final class Script {
-        private final Row characters = new Row(TEXT_SIZE);
+        private final Cells characters = new Cells(TEXT_SIZE, 1);
         private int length = 0;
 
         int add(int character) {
@@ -973,24 +973,16 @@ public final class PuppetTurns {
     /** What a text says: its acts with letters and the brackets of its groups, in the order of the text. */
     private static final class Steps {
         // An act or a bracket takes at least one character.
-        private final Row parts = new Row(TEXT_SIZE * STEP_PARTS);
+        private final Cells parts = new Cells(TEXT_SIZE, STEP_PARTS);
         private int length = 0;
 
         int add(int sign, int place, int depth) {
             int step = length;
             length++;
-            set(step, SIGN, sign);
-            set(step, PLACE, place);
-            set(step, DEPTH, depth);
+            parts.set(step, SIGN, sign);
+            parts.set(step, PLACE, place);
+            parts.set(step, DEPTH, depth);
             return step;
-        }
-
-        int get(int step, int part) {
-            return parts.get(step * STEP_PARTS + part);
-        }
-
-        void set(int step, int part, int value) {
-            parts.set(step * STEP_PARTS + part, value);
         }
     }
 
@@ -998,7 +990,7 @@ public final class PuppetTurns {
     private static final class Reader {
         private final Script script = new Script();
         private final Steps steps = new Steps();
-        private final Row opened = new Row(MOST_GROUPS);
+        private final Cells opened = new Cells(MOST_GROUPS, 1);
         private int place = 0;
         private int depth = 0;
         private int fault = -1;
@@ -1060,7 +1052,7 @@ public final class PuppetTurns {
                 return;
             }
             int step = steps.add('(', place, depth + 1);
-            steps.set(step, FIRST, times);
+            steps.parts.set(step, FIRST, times);
             opened.set(depth, step);
             depth++;
             place++;
@@ -1078,7 +1070,7 @@ public final class PuppetTurns {
                 steps.length = opening;
             } else {
                 int step = steps.add(')', place, depth + 1);
-                steps.set(step, FIRST, opening);
+                steps.parts.set(step, FIRST, opening);
             }
             place++;
         }
@@ -1096,7 +1088,7 @@ public final class PuppetTurns {
                     expect(',');
                 }
                 boolean ofPlace = letter == 'm' && number > 0;
-                steps.set(step, FIRST + number, readNumber(ofPlace));
+                steps.parts.set(step, FIRST + number, readNumber(ofPlace));
             }
             expect(';');
         }
@@ -1152,8 +1144,8 @@ public final class PuppetTurns {
         // Every group that is left holds an act, so that few brackets are passed between two acts.
         private static final int MOST_ROUNDS = 100000;
 
-        private final Row acts = new Row(MOST_ACTS);
-        private final Row timesLeft = new Row(MOST_GROUPS);
+        private final Cells acts = new Cells(MOST_ACTS, 1);
+        private final Cells timesLeft = new Cells(MOST_GROUPS, 1);
         private int size = 0;
         private int depth = 0;
         private int excess = -1;
@@ -1170,9 +1162,9 @@ public final class PuppetTurns {
 
         /** Answers which step comes behind this one. */
         private int take(Steps steps, int step) {
-            switch (steps.get(step, SIGN)) {
+            switch (steps.parts.get(step, SIGN)) {
                 case '(':
-                    timesLeft.set(depth, steps.get(step, FIRST));
+                    timesLeft.set(depth, steps.parts.get(step, FIRST));
                     depth++;
                     return step + 1;
                 case ')':
@@ -1186,7 +1178,7 @@ public final class PuppetTurns {
         private int takeClosing(Steps steps, int step) {
             timesLeft.add(depth - 1, -1);
             if (timesLeft.get(depth - 1) > 0) {
-                return steps.get(step, FIRST) + 1;
+                return steps.parts.get(step, FIRST) + 1;
             }
             depth--;
             return step + 1;

@@ -101,6 +101,9 @@ public final class ForecastsTest {
         stage = oneApart();
         check.due("one apart: step", stage.bestStep(0), 2);
         check.due("one apart: number", stage.bestStep(1), 13);
+        stage.setLimit(2);
+        check.due("none hidden: step", stage.bestStep(0), 1);
+        check.due("none hidden: number", stage.bestStep(1), 0);
     }
 
     /** Puppet 2 is hidden after 0 or 1 turns, and puppet 1 after 2: by steps of 2 the latter comes more often. */
@@ -115,7 +118,8 @@ public final class ForecastsTest {
 
     private static void promise25IsWhatFramesGive() {
         int[][] places = {{0, 0, 4, 8, 8, 3}, {0, 4, 2, 9, 5, 7, 1}, {10, 10, 10, 12, 14, 30, 28, 26, 26},
-            {5, 5, 5, 5, 5, 9, 9, 9, 13, 13, 17}};
+            {5, 5, 5, 5, 5, 9, 9, 9, 13, 13, 17},
+            {0, 16, 0, 0, 16, 16, 32, 16, 0, 16, 16, 0, 0, 32, 0, 16, 16, 16, 16}};
         for (int[] lines : places) {
             for (int limit = 1; limit <= 3; limit++) {
                 int bestStep = 0;

@@ -12,6 +12,7 @@ public final class FramesTest {
         promise11MostFrames();
         promise12Undo();
         promise12UndoRestoresAll();
+        promise12UndoOfEachAction();
         check.end();
     }
 
@@ -50,6 +51,10 @@ public final class FramesTest {
     private static void promise11FrameCounts() {
         PuppetTurns stage = new PuppetTurns();
         check.due("frame() without puppets", stage.frame(), 0);
+        stage.setRule(1, 19);
+        check.due("frame() of rule 1 without puppets", stage.frame(), 0);
+        stage.setRule(2, 1);
+        check.due("frame() of rule 2 without puppets", stage.frame(), 0);
         stage = crowd(3);
         stage.setLimit(2);
         check.due("frame 1", stage.frame(), 1);
@@ -174,6 +179,63 @@ public final class FramesTest {
         check.due("frames", stage.count(5), 0);
         check.due("the failure stays", stage.failure(1), 1);
         check.due("the text stays", stage.count(10), 2);
+    }
+
+    /** Behind a setLimit, so that a state of before that would be told by the limit. */
+    private static void promise12UndoOfEachAction() {
+        for (int action = 0; action < 11; action++) {
+            PuppetTurns stage = crowd(3);
+            stage.setLimit(2);
+            stage.setRule(1, 1);
+            perform(stage, action);
+            check.due("undo() of action " + action, stage.undo(), 4);
+            int[] counts = {3, 3, 2, 1, 1, 0, 1, 64, 0, 4};
+            for (int what = 0; what < counts.length; what++) {
+                check.due("then count(" + what + ") behind action " + action, stage.count(what), counts[what]);
+            }
+            order(stage, 0, 1, 2);
+            check.due("x behind action " + action, stage.puppet(0, 0), 0);
+            check.due("flips behind action " + action, stage.puppet(0, 5), 0);
+            check.due("hidden frames behind action " + action, stage.puppet(2, 9), 0);
+        }
+    }
+
+    private static void perform(PuppetTurns stage, int action) {
+        switch (action) {
+            case 0:
+                stage.setRow(0, 0, 0);
+                break;
+            case 1:
+                stage.come(9, 9, 1, 1, 1);
+                break;
+            case 2:
+                stage.leave(0);
+                break;
+            case 3:
+                stage.move(0, 9, 9);
+                break;
+            case 4:
+                stage.turn(0, 3);
+                break;
+            case 5:
+                stage.lift(2);
+                break;
+            case 6:
+                stage.lower(0);
+                break;
+            case 7:
+                stage.setLimit(5);
+                break;
+            case 8:
+                stage.setRule(2, 2);
+                break;
+            case 9:
+                stage.frame();
+                break;
+            default:
+                Check.run(stage, "f;m0,5,5;u1;t0,2;l3;d0;");
+                break;
+        }
     }
 
     private static PuppetTurns crowd(int puppets) {

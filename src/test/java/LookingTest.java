@@ -6,6 +6,7 @@ public final class LookingTest {
 
     public static void main(String[] args) {
         promise17Count();
+        promise17CountOfHidden();
         promise18Puppet();
         promise19Line();
         promise20Shown();
@@ -37,6 +38,23 @@ public final class LookingTest {
         stage.setRow(0, 0, 0);
         check.due("dots without a row", stage.count(7), 84);
         check.due("looking is no action", stage.count(9), 5);
+        stage.lift(2);
+        check.due("hidden after a lift", stage.count(6), 1);
+        stage.leave(2);
+        check.due("alone", stage.count(6), 0);
+    }
+
+    private static void promise17CountOfHidden() {
+        PuppetTurns stage = new PuppetTurns();
+        stage.come(0, 0, 0, 0, 1);
+        stage.come(0, 7, 0, 0, 1);
+        stage.come(0, 14, 0, 0, 1);
+        stage.setLimit(1);
+        check.due("the last two", stage.count(6), 2);
+        stage.lift(2);
+        check.due("the one between", stage.count(6), 1);
+        stage.lift(1);
+        check.due("both others, with the hero", stage.count(6), 2);
     }
 
     private static void promise18Puppet() {
@@ -59,6 +77,9 @@ public final class LookingTest {
         for (int what = 0; what < hero.length; what++) {
             check.due("puppet(0," + what + ")", stage.puppet(0, what), hero[what]);
         }
+        stage.lower(0);
+        check.due("lines hidden once lowered", stage.puppet(0, 8), 7);
+        check.due("lines hidden now", stage.puppet(1, 8), 0);
         check.due("puppet(0,-1)", stage.puppet(0, -1), INVALID);
         check.due("puppet(0,12)", stage.puppet(0, 12), INVALID);
         check.due("puppet(-1,0)", stage.puppet(-1, 0), INVALID);
@@ -175,6 +196,14 @@ public final class LookingTest {
         clash(stage, 0, NONE, NONE, NONE);
         stage.move(2, 20, 27);
         clash(stage, 7, 27, 28, 2);
+        stage.move(1, 56, 40);
+        stage.move(2, 63, 47);
+        clash(stage, 1, 63, 47, 2);
+        stage.move(1, -7, 0);
+        stage.move(2, -2, -7);
+        clash(stage, 0, NONE, NONE, NONE);
+        stage.setRow(1, 0, 1);
+        clash(stage, 1, 0, 0, 2);
         check.due("clash(-1)", stage.clash(-1), INVALID);
         check.due("clash(4)", stage.clash(4), INVALID);
     }

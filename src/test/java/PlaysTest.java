@@ -85,6 +85,9 @@ public final class PlaysTest {
         check.due("frames", stage.count(5), 27);
         check.due("four deep", Check.run(stage, "1(2(3(4(f;))))"), 24);
         check.due("empty groups", Check.run(stage, "9(9(9(9()9())9()))()"), 0);
+        check.due("many empty groups", Check.run(stage, "9(9(9(" + "9()".repeat(29) + ")))f;"), 1);
+        check.due("as many groups as there is room for", Check.run(stage, "()".repeat(50)), 0);
+        check.due("as many acts as there is room for", Check.run(stage, "f;".repeat(50)), 50);
         check.due("empty beside acts", Check.run(stage, "2(3()f;3())4()f;"), 3);
         check.due("one behind the other", Check.run(stage, "2(f;)3(f;)"), 5);
         check.due("two in one", Check.run(stage, "2(2(f;)3(f;))"), 10);
