@@ -2,6 +2,7 @@
 public final class ModelTest {
     private static final int RUNS = 260;
     private static final int CALLS = 512;
+    private static final int CALLS_BESIDE_TEXT = 7;
     private static final Check check = new Check();
 
     private final PuppetTurns stage = new PuppetTurns();
@@ -27,7 +28,7 @@ public final class ModelTest {
     private void play() {
         for (int call = 0; call < CALLS; ) {
             int before = told.length();
-            call += step();
+            call += step(CALLS - call);
             if (check.failed()) {
                 System.out.println("the run before it:" + told.substring(0, before));
                 return;
@@ -71,14 +72,14 @@ public final class ModelTest {
         check.due(call, got, due);
     }
 
-    private int step() {
+    private int step(int callsLeft) {
         int kind = below(100);
         if (kind < 12 + crowd * 6 && model.count(1) < 3 + crowd * 6) {
             come();
         } else if (kind < 40) {
             act();
-        } else if (kind < 46) {
-            return text();
+        } else if (kind < 46 && callsLeft > CALLS_BESIDE_TEXT) {
+            return text(callsLeft - CALLS_BESIDE_TEXT);
         } else if (kind < 50) {
             compare("undo()", stage.undo(), model.undo());
         } else if (kind < 90) {
@@ -150,11 +151,12 @@ public final class ModelTest {
         }
     }
 
-    private int text() {
+    private int text(int mostCharacters) {
         String text = aPlay(0, 30 + below(60));
         if (below(3) == 0) {
             text = spoilt(text);
         }
+        text = text.substring(0, Math.min(text.length(), mostCharacters));
         compare("clearText()", stage.clearText(), model.clearText());
         for (int i = 0; i < text.length(); i++) {
             char c = text.charAt(i);
@@ -164,7 +166,7 @@ public final class ModelTest {
         for (int what = 0; what < 5; what++) {
             compare("failure(" + what + ")", stage.failure(what), model.failure(what));
         }
-        return text.length() + 7;
+        return text.length() + CALLS_BESIDE_TEXT;
     }
 
     private String aPlay(int depth, int room) {
